@@ -1,0 +1,63 @@
+import java.util.ArrayList;
+import java.util.List;
+
+/** Collects what is due and what was answered, and tells each test's outcome on a line for .ci/run. */
+final class Checks {
+    /** One test: it throws nothing itself, but what the class throws counts as a failure. */
+    interface Test {
+        void run(Checks checks);
+    }
+
+    private final List<String> wrong = new ArrayList<>();
+    private int failedTests;
+
+    void due(String call, long answered, long due) {
+        if (answered != due) {
+            wrong.add(call + " answered " + answered + ", due is " + due);
+        }
+    }
+
+    void isTrue(String what, boolean so) {
+        if (!so) {
+            wrong.add(what);
+        }
+    }
+
+    void test(String name, Test test) {
+        wrong.clear();
+        try {
+            test.run(this);
+        } catch (RuntimeException thrown) {
+            wrong.add("threw " + thrown);
+        }
+        if (wrong.isEmpty()) {
+            System.out.println("ok " + name);
+        } else {
+            failedTests++;
+            System.out.println("not ok " + name + ": " + wrong.size() + " wrong, the first: " + wrong.get(0));
+        }
+    }
+
+    void end() {
+        System.exit(failedTests == 0 ? 0 : 1);
+    }
+
+    /** Feeds a text and tells it as a TOWN. */
+    static int told(WeighedInBooks x, String text) {
+        for (int i = 0; i < text.length(); i++) {
+            x.feed(text.charAt(i));
+        }
+        return x.town();
+    }
+
+    static WeighedInBooks town(String... texts) {
+        WeighedInBooks x = new WeighedInBooks();
+        for (String text : texts) {
+            int answer = told(x, text);
+            if (answer < 0) {
+                throw new IllegalArgumentException("no TOWN: " + text + " (" + answer + ")");
+            }
+        }
+        return x;
+    }
+}

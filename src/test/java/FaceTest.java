@@ -1,0 +1,130 @@
+import java.io.IOException;
+import java.lang.reflect.Constructor;
+import java.lang.reflect.Field;
+import java.lang.reflect.Method;
+import java.lang.reflect.Modifier;
+import java.nio.file.Files;
+import java.nio.file.Path;
+import java.util.Set;
+import java.util.TreeSet;
+import java.util.regex.Matcher;
+import java.util.regex.Pattern;
+
+/** The public face of the document, and what of ../shared/LANGUAGE.md a look at the text can tell. */
+public final class FaceTest {
+    private static final String[] FACE = {
+        "int feed(int)", "int town()", "int person(int,int)", "int book(int,int)", "int title(int,int)",
+        "int comes(int,int,int)", "int brings(int,int,int,int)", "int eats(int,int)", "int reads(int,int)",
+        "int lends(int,int)", "int buys(int,int)", "int step(int,int)", "int clearLaw()", "int weeks(int)",
+        "int back()", "int over(int,int)", "int pan(int,int,int)", "int overThen(int,int,int)",
+        "int then(int,int,int)", "int when(int,int)", "int first()", "int buy(int,int,int)",
+        "int borrow(int,int,int)", "int taught(int,int,int,int)", "int couples(int)", "int heaviest(int,int,int)",
+        "int whatKind(int,int,int,int)", "int two(int,int,int)", "long damp(int,int,int,int,int)",
+        "int titles(int,int)", "int from(int)", "int shelf(int,int)", "int sight(int)", "long share(int,int)",
+        "int byHeart(int,int)", "int kinds(int)", "int row(int)", "int judge()", "int clear()",
+        "int lots(int,int,int)", "int image()", "int restore()", "int count(int)"};
+
+    public static void main(String[] args) throws IOException {
+        String source = Files.readString(Path.of("src/main/java/WeighedInBooks.java"));
+        Checks checks = new Checks();
+        checks.test("the face is the document's", FaceTest::face);
+        checks.test("no more than the face is seen", FaceTest::nothingElse);
+        checks.test("the language is kept to", c -> language(c, bare(source)));
+        checks.test("short methods, few parameters", c -> sizes(c, source));
+        checks.end();
+    }
+
+    private static String signature(Method method) {
+        StringBuilder told = new StringBuilder(method.getReturnType() + " " + method.getName() + "(");
+        for (Class<?> type : method.getParameterTypes()) {
+            told.append(told.charAt(told.length() - 1) == '(' ? "" : ",").append(type);
+        }
+        return told + ")";
+    }
+
+    private static void face(Checks c) {
+        Set<String> seen = new TreeSet<>();
+        for (Method method : WeighedInBooks.class.getDeclaredMethods()) {
+            if (!Modifier.isPrivate(method.getModifiers())) {
+                c.isTrue(method + " is not public", Modifier.isPublic(method.getModifiers()));
+                c.isTrue(method + " is static", !Modifier.isStatic(method.getModifiers()));
+                seen.add(signature(method));
+            }
+        }
+        Set<String> due = new TreeSet<>(Set.of(FACE));
+        c.isTrue("seen are " + seen, seen.equals(due));
+    }
+
+    private static void nothingElse(Checks c) {
+        int itself = WeighedInBooks.class.getModifiers();
+        c.isTrue("the class is public and final", Modifier.isPublic(itself) && Modifier.isFinal(itself));
+        Constructor<?>[] made = WeighedInBooks.class.getDeclaredConstructors();
+        c.isTrue("one public constructor of nothing", made.length == 1
+            && Modifier.isPublic(made[0].getModifiers()) && made[0].getParameterCount() == 0);
+        for (Field field : WeighedInBooks.class.getDeclaredFields()) {
+            c.isTrue(field + " is private", Modifier.isPrivate(field.getModifiers()));
+        }
+        Set<String> names = new TreeSet<>();
+        for (String told : FACE) {
+            names.add(told.substring(told.indexOf(' ') + 1, told.indexOf('(')));
+        }
+        Class<?>[] inside = WeighedInBooks.class.getDeclaredClasses();
+        c.isTrue("twelve classes at most", inside.length < 12);
+        for (Class<?> one : inside) {
+            int kind = one.getModifiers();
+            c.isTrue(one + " is static and hidden", Modifier.isStatic(kind) && !Modifier.isPublic(kind)
+                && !Modifier.isProtected(kind));
+            for (Method method : one.getDeclaredMethods()) {
+                c.isTrue(method + " bears a public name", !names.contains(method.getName()));
+            }
+        }
+        for (Method method : WeighedInBooks.class.getDeclaredMethods()) {
+            c.isTrue(method + " bears a public name",
+                Modifier.isPublic(method.getModifiers()) || !names.contains(method.getName()));
+        }
+    }
+
+    /** The text without comments and texts. */
+    private static String bare(String source) {
+        return source.replaceAll("(?s)/\\*.*?\\*/", " ").replaceAll("//[^\n]*", " ")
+            .replaceAll("\"[^\"\n]*\"", "\"\"").replaceAll("'[^'\n]*'", "0");
+    }
+
+    private static void language(Checks c, String bare) {
+        Matcher banned = Pattern.compile("\\b(throw|throws|try|catch|finally|synchronized|assert|instanceof|import"
+            + "|package|lambda|var|yield|native|volatile|transient|record|interface|Object|System\\.(?!arraycopy)"
+            + "|Thread|Random|hashCode|equals|toString|[A-Z]\\w+\\.[A-Z]+_VALUE|\\w+Exact)|->|::").matcher(bare);
+        while (banned.find()) {
+            c.isTrue("the text has " + banned.group(), false);
+        }
+        Matcher library = Pattern.compile("\\b(Math|Integer|Long)\\.(\\w+)").matcher(bare);
+        while (library.find()) {
+            c.isTrue("the text calls " + library.group(), Set.of("max", "min", "abs", "bitCount")
+                .contains(library.group(2)));
+        }
+        Matcher made = Pattern.compile("\\bnew (\\w+)").matcher(bare);
+        while (made.find()) {
+            c.isTrue("the text makes " + made.group(1), Set.of("Town", "Past", "Statements", "Foresight", "Bargain",
+                "Couples", "int").contains(made.group(1)));
+        }
+        Matcher statics = Pattern.compile("(?m)^\\s*(private )?static (?!final)(\\w+(\\[\\])*) \\w+\\s*[;=]").matcher(bare);
+        c.isTrue("a static field is not final", !statics.find());
+    }
+
+    private static void sizes(Checks c, String source) {
+        String[] lines = source.split("\n");
+        int start = -1;
+        for (int i = 0; i < lines.length; i++) {
+            if (lines[i].matches(" +(?!static final|private static final|private final)[\\w\\[\\] ]*\\w+\\(.*\\) \\{")
+                && !lines[i].matches(" +(if|for|while|switch|\\} else).*")) {
+                start = i;
+                c.isTrue("seven parameters at most: " + lines[i].strip(), lines[i].split(",").length <= 7);
+            } else if (start >= 0 && lines[i].matches(" {4,8}\\}") && lines[i].indexOf('}')
+                == lines[start].length() - lines[start].stripLeading().length()) {
+                c.isTrue("sixty lines at most: " + lines[start].strip(), i - start <= 60);
+                start = -1;
+            }
+            c.isTrue("line " + (i + 1) + " has signs above 126", lines[i].matches("[\\x20-\\x7e]*"));
+        }
+    }
+}
