@@ -110,8 +110,8 @@ public final class WeighedInBooks {
             case 1: return now.appetite[person];
             case 2: return now.purse[person];
             case 3: return now.readingsOf(person);
-            case 4: return now.holdingsOf(person);
-            case 5: return now.belongingsOf(person);
+            case 4: return now.booksWith(now.holder, person);
+            case 5: return now.booksWith(now.owner, person);
             default: return refuse(OTHER);
         }
     }
@@ -262,7 +262,7 @@ public final class WeighedInBooks {
         if (!areTwo(one, other)) {
             return refuse(NOBODY);
         }
-        if (what != 0 && what != 1) {
+        if (isNeither(what)) {
             return refuse(OTHER);
         }
         bargain.seek(now, one, other);
@@ -339,7 +339,7 @@ public final class WeighedInBooks {
         if (!areTwo(one, other)) {
             return refuse(NOBODY);
         }
-        if (what != 0 && what != 1) {
+        if (isNeither(what)) {
             return refuse(OTHER);
         }
         foresight.seekLoan(now, one, other);
@@ -363,13 +363,11 @@ public final class WeighedInBooks {
         if (!areTwo(one, other) || !now.hasBook(book)) {
             return refuse(NOBODY);
         }
-        if (what != 0 && what != 1) {
+        if (isNeither(what)) {
             return refuse(OTHER);
         }
         foresight.think(now);
-        return what == 0
-            ? foresight.kindsBy(toldRow, inRow, one, other, book)
-            : foresight.figuresBy(toldRow, inRow, one, other, book);
+        return foresight.bitsBy(toldRow, inRow, one, other, book, what == 0);
     }
 
     public int two(int one, int other, int n) {
@@ -395,7 +393,7 @@ public final class WeighedInBooks {
         if (n > 7 || t > 20) {
             return REFUSED_LONG - refuse(ROOM);
         }
-        if (part != 0 && part != 1) {
+        if (isNeither(part)) {
             return REFUSED_LONG - refuse(OTHER);
         }
         return Fractions.part(foresight.dampCases(now, one, other, n, t), Fractions.power(t, n), part);
@@ -408,7 +406,7 @@ public final class WeighedInBooks {
         if (n > 20) {
             return refuse(ROOM);
         }
-        if (what != 0 && what != 1) {
+        if (isNeither(what)) {
             return refuse(OTHER);
         }
         foresight.drawSprings(now, n, z);
@@ -443,7 +441,7 @@ public final class WeighedInBooks {
             return refuse(NOBODY);
         }
         switch (what) {
-            case 0: return now.holdingsOf(holder);
+            case 0: return now.booksWith(now.holder, holder);
             case 1: return now.kindsHeldBy(holder);
             case 2: return now.pricesHeldBy(holder);
             case 3: return now.mostHeldKind(holder);
@@ -465,7 +463,7 @@ public final class WeighedInBooks {
         if (!now.hasPerson(person)) {
             return REFUSED_LONG - refuse(NOBODY);
         }
-        if (part != 0 && part != 1) {
+        if (isNeither(part)) {
             return REFUSED_LONG - refuse(OTHER);
         }
         return Fractions.part(now.readingsOf(person), now.books, part);
@@ -482,7 +480,7 @@ public final class WeighedInBooks {
         if (kind < 0 || kind >= KINDS) {
             return refuse(OTHER);
         }
-        return now.booksOfKind(kind);
+        return now.booksWith(now.kind, kind);
     }
 
     // ---- the row
@@ -553,6 +551,11 @@ public final class WeighedInBooks {
     private int refuse(int refusal) {
         refused[-refusal]++;
         return refusal;
+    }
+
+    /** Of the two parts, or questions, that a call has. */
+    private boolean isNeither(int part) {
+        return part != 0 && part != 1;
     }
 
     private boolean areTwo(int one, int other) {
@@ -994,30 +997,11 @@ public final class WeighedInBooks {
             return bits;
         }
 
-        int booksOfKind(int wanted) {
+        /** How many books have the wanted number in one of the rows above. */
+        int booksWith(int[] numbers, int wanted) {
             int many = 0;
-            for (int book = 0; book < books; book++) {
-                if (kind[book] == wanted) {
-                    many++;
-                }
-            }
-            return many;
-        }
-
-        int holdingsOf(int keeper) {
-            int many = 0;
-            for (int book = 0; book < books; book++) {
-                if (holder[book] == keeper) {
-                    many++;
-                }
-            }
-            return many;
-        }
-
-        int belongingsOf(int keeper) {
-            int many = 0;
-            for (int book = 0; book < books; book++) {
-                if (owner[book] == keeper) {
+            for (int book = 0; book < books && book < numbers.length; book++) {
+                if (numbers[book] == wanted) {
                     many++;
                 }
             }
@@ -1464,28 +1448,19 @@ public final class WeighedInBooks {
             return best;
         }
 
-        /** Kind and figure change no reading: the weeks pass once for all kinds that may be. */
-        int kindsBy(int[] row, int inRow, int one, int other, int book) {
-            int left = (1 << KINDS) - 1;
+        /**
+         * The kinds (or figures) of a book, as bits, by which the row is so. Neither changes what is read, so
+         * the weeks pass once for all that are tried.
+         */
+        int bitsBy(int[] row, int inRow, int one, int other, int book, boolean ofKinds) {
+            int[] changed = ofKinds ? mind.kind : mind.figure;
+            int many = ofKinds ? KINDS : MOST_FIGURE + 1;
+            int left = (1 << many) - 1;
             for (int week = 0; week < inRow && week < row.length; week++) {
-                for (int kind = 0; kind < KINDS; kind++) {
-                    mind.kind[book] = kind;
+                for (int tried = 0; tried < many; tried++) {
+                    changed[book] = tried;
                     if (mind.overOf(one, other) != row[week]) {
-                        left &= ~(1 << kind);
-                    }
-                }
-                mind.weekPasses(true);
-            }
-            return left;
-        }
-
-        int figuresBy(int[] row, int inRow, int one, int other, int book) {
-            int left = (1 << MOST_FIGURE + 1) - 1;
-            for (int week = 0; week < inRow && week < row.length; week++) {
-                for (int figure = 0; figure <= MOST_FIGURE; figure++) {
-                    mind.figure[book] = figure;
-                    if (mind.overOf(one, other) != row[week]) {
-                        left &= ~(1 << figure);
+                        left &= ~(1 << tried);
                     }
                 }
                 mind.weekPasses(true);

@@ -109,6 +109,8 @@ public final class SightTest {
         x.lends(2, 0);
         x.lends(1, 9);
         c.due("lent", x.sight(3), 8 + 4 + 2);
+        x.lends(0, 2);
+        c.due("lent", x.sight(3), 8 + 4 + 2 + 1);
         x.reads(2, 0);
         x.reads(1, 5);
         c.due("unread", x.sight(2), 255 - 1 - 32);
@@ -125,6 +127,7 @@ public final class SightTest {
         c.due("the town has none", x.sight(1), 0);
         c.due("another what", x.sight(4), -2);
         c.due("another what", x.sight(-1), -2);
+        c.due("both are poor", Checks.town("p00004;p00000;b059a;").sight(1), 2);
         c.due("without people", Checks.town("b009a;").sight(1), 0);
     }
 

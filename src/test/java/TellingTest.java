@@ -245,6 +245,8 @@ public final class TellingTest {
         c.due("he has read", x.person(0, 3), 2);
         c.due("he holds", x.person(0, 4), 2);
         c.due("he owns", x.person(0, 5), 1);
+        x.buys(0, 0);
+        c.due("he owns one more", x.person(0, 5), 2);
         c.due("person(3, 0)", x.person(3, 0), -1);
         c.due("person(-1, 0)", x.person(-1, 0), -1);
         c.due("person(9, 0)", x.person(9, 0), -1);
@@ -258,12 +260,13 @@ public final class TellingTest {
     private static void weighs(Checks c) {
         int[][] even = {{0, 6, 7, 8}, {2, 6, 7, 8}, {8, 8, 8, 8}, {11, 7, 8, 9}, {2, 9, 11, 13}, {9, 9, 9, 9},
             {8, 4, 5, 6}, {10, 10, 10, 10}, {10, 13, 15, 17}};
-        for (int odd = 0; odd < 2; odd++) {
-            WeighedInBooks x = Checks.town(odd == 1 ? "w01;" : "w02;", FIRST_HALF, SECOND_HALF, "b799bibl;");
+        for (int week = 1; week <= 6; week++) {
+            WeighedInBooks x = Checks.town("w0" + week + ";", FIRST_HALF, SECOND_HALF, "b799bibl;");
+            int odd = week % 2;
             for (int read = 0; read <= 3; read++) {
                 for (int book = 0; book < 9; book++) {
                     int due = even[book][read] + (odd == 1 && book == 6 ? 3 : 0);
-                    c.due("book " + book + " read by " + read + ", odd " + odd, x.book(book, 5), due);
+                    c.due("book " + book + " read by " + read + ", week " + week, x.book(book, 5), due);
                     x.reads(read, book);
                 }
             }

@@ -64,9 +64,12 @@ public final class WeighingTest {
         stepped(c, "lt19;", 0);
         stepped(c, "ld;", 18);
         stepped(c, "ld;", 18, 0, 2);
+        stepped(c, "ld;", 18, 0);
+        stepped(c, "ld;", 18, 1);
         stepped(c, "ld;", 36, 0, 1);
         stepped(c, "lu;", 0);
         stepped(c, "lu;", 0, 2);
+        stepped(c, "lu;", 18, 0);
         stepped(c, "lu;", 18, 1);
         stepped(c, "lu;", 18, 0, 1);
         stepped(c, "lh;", 9);
@@ -181,6 +184,11 @@ public final class WeighingTest {
         x.lends(3, 0);
         c.due("what one of the two holds", x.buy(0, 1, 0), 0);
         x.back();
+        x.lends(7, 0);
+        c.due("what one holds adds nothing", x.buy(0, 1, 0), 8);
+        x.lends(7, 1);
+        c.due("what the other holds adds nothing", x.buy(0, 1, 0), 8);
+        x.lends(7, 9);
         x.step(5, 0);
         x.reads(0, 3);
         x.reads(1, 6);
@@ -195,6 +203,16 @@ public final class WeighingTest {
         c.due("nobody", x.buy(3, 0, 0), -1);
         c.due("another what", x.buy(0, 1, 2), -2);
         c.due("another what", x.buy(0, 1, -1), -2);
+        WeighedInBooks z = Checks.town("p04900;p04900;b299a;b399b;");
+        c.due("less, found later", z.buy(0, 1, 0), 2);
+        z.eats(0, 9);
+        z.eats(1, 9);
+        c.due("the dear one", z.buy(0, 1, 1), 30);
+        Checks.told(z, "b399c;");
+        c.due("two for less than one", z.buy(0, 1, 0), 6);
+        WeighedInBooks w = Checks.town("p08900;p08900;b399a;b399b;b299c;");
+        c.due("two for less than one, found first", w.buy(0, 1, 0), 3);
+        c.due("two for less than one, found first", w.buy(0, 1, 1), 2);
         WeighedInBooks y = Checks.town("p05900;p05900;b759a;b759b;b209c;b759d;");
         c.due("the least bits", y.buy(0, 1, 0), 1);
         y.buys(0, 0);
@@ -213,6 +231,10 @@ public final class WeighingTest {
         x.eats(0, 99);
         c.due("none", x.borrow(0, 2, 0), -9);
         c.due("none", x.borrow(0, 2, 1), -9);
+        x.lends(0, 1);
+        c.due("none that one holds", x.borrow(1, 2, 0), 1);
+        x.lends(0, 2);
+        c.due("none that the other holds", x.borrow(1, 2, 0), 1);
         c.due("one twice", x.borrow(0, 0, 2), -1);
         c.due("nobody", x.borrow(3, 0, 0), -1);
         c.due("another what", x.borrow(0, 1, 2), -2);
@@ -249,7 +271,10 @@ public final class WeighingTest {
         c.due("the two are one", x.taught(0, 1, 1, 0), -1);
         c.due("below", x.taught(0, 0, 1, -1), -4);
         c.due("above", x.taught(0, 0, 1, 61), -6);
-        c.due("60", x.taught(0, 0, 1, 60) >= -9 ? 1 : 0, 1);
+        c.due("60", x.taught(2, 0, 1, 60), 0);
+        WeighedInBooks v = Checks.town("p03900;p03900;p00900;b051n;");
+        c.due("what the other holds", v.taught(2, 0, 1, 0), 0);
+        c.due("what none of the two holds", v.taught(2, 0, 2, 0), -9);
     }
 
     /** It comes down for two just if one holds an ATLAS that both have read. */
@@ -306,6 +331,14 @@ public final class WeighingTest {
         for (int i = 0; i < alike.length; i++) {
             c.due("alike, heaviest(2, 1, " + i + ")", x.heaviest(2, 1, i), alike[i]);
         }
+        x.clearLaw();
+        x.lends(0, 1);
+        c.due("the lightest", x.heaviest(1, 2, 3), 0);
+        WeighedInBooks y = Checks.town("p00900;p00900;b250z;b250m;b240q;r1z;r0m;r0q;r1q;ld;");
+        int[] doubled = {2, 1, 0};
+        for (int i = 0; i < 3; i++) {
+            c.due("doubled, heaviest(0, 1, " + i + ")", y.heaviest(0, 1, i), doubled[i]);
+        }
         c.due("one twice", x.heaviest(1, 1, -1), -1);
         c.due("nobody", x.heaviest(1, 3, 0), -1);
         c.due("below", x.heaviest(1, 2, -1), -4);
@@ -350,6 +383,9 @@ public final class WeighingTest {
         rowed(x, 0);
         c.due("what is not on the pan, as it isn't", x.whatKind(0, 1, 4, 1), 0);
         c.due("in mind", x.book(2, 0) * 100 + x.book(2, 1) * 10 + x.count(2), 240);
+        WeighedInBooks y = rowed(Checks.town("p03900;p03900;b050n;"), -6, 0);
+        c.due("a NOVEL of 5, as it is read", y.whatKind(0, 1, 0, 1), 32);
+        c.due("a NOVEL, as it is read", y.whatKind(0, 1, 0, 0), 1);
         c.due("one twice", x.whatKind(0, 0, 2, 2), -1);
         c.due("nobody", x.whatKind(0, 3, 2, 0), -1);
         c.due("no book", x.whatKind(0, 1, 8, 0), -1);
@@ -371,6 +407,8 @@ public final class WeighingTest {
         c.due("both keep three", Checks.town(three, others).two(0, 1, 3), 0);
         c.due("two weeks: giving is as good", Checks.town(three, others).two(0, 1, 2), 0);
         c.due("one week: giving is better", Checks.town(three, others).two(0, 1, 1), 11);
+        c.due("more if both gave, but not for one alone",
+            Checks.town(three, others, "b000q;b000r;h1q;h1r;").two(0, 1, 3), 0);
         c.due("the one keeps", Checks.town(three).two(0, 1, 3), 1);
         c.due("the other keeps", Checks.town(three).two(1, 0, 3), 10);
         c.due("his own he keeps in any case", Checks.town("p00900;p00900;b000a;b000b;b000c;").two(0, 1, 9), 11);
