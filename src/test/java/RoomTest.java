@@ -34,6 +34,7 @@ public final class RoomTest {
             long start = room.getCurrentThreadAllocatedBytes();
             WeighedInBooks y = new WeighedInBooks();
             long one = room.getCurrentThreadAllocatedBytes() - start;
+            // The first run makes what the machine itself needs to start.
             c.isTrue("run " + run + " made " + made + " bytes", run == 0 || made < 512);
             c.isTrue("a new object has " + one + " bytes", one < 32768 && y.count(0) == 0);
         }

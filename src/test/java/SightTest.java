@@ -226,8 +226,7 @@ public final class SightTest {
     private static void lots(Checks c) {
         WeighedInBooks x = Checks.town("p03900;p03900;b051n;");
         // The book goes to 0 by an even draw, who gives it to 1, and to 1 by an odd one.
-        int[] draws = {0, 20972, 16838, 908, 17747};
-        c.due("seed 0", x.lots(1, 0, 0), 2);
+        c.due("seed 0, 12345 is too small to tell", x.lots(1, 0, 0), 2);
         c.due("seed 1, 16838", x.lots(1, 1, 0), 2);
         c.due("seed 2, below 0 without its sign 908", x.lots(1, 2, 0), 2);
         c.due("seed 3, 17747", x.lots(1, 3, 0), 1);
@@ -249,7 +248,6 @@ public final class SightTest {
         c.due("another what", x.lots(20, 5, 2), -2);
         c.due("another what", x.lots(1, 5, -1), -2);
         c.due("without people", Checks.town("b009a;").lots(20, 1, 0), 0);
-        c.due("the draws of this test", draws.length, 5);
         WeighedInBooks y = Checks.town("p00900;b009a;b009b;b009c;b009d;b009e;b009f;b009g;b009h;b009i;b009j;");
         c.due("8 of 10 in 8 weeks", y.lots(3, 9, 0), 24);
         c.due("one alone", y.lots(3, 9, 1), 0);
