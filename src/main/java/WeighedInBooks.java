@@ -16,6 +16,7 @@ public final class WeighedInBooks {
     private static final int MOST_PEOPLE = 6;
     private static final int MOST_BOOKS = 10;
     private static final int MOST_STEPS = 6;
+    private static final int MOST_NUMBER = 99;
     private static final int MOST_LETTERS = 96;
     private static final int MOST_TOLD = 12;
     private static final int MOST_BACK = 8;
@@ -203,11 +204,11 @@ public final class WeighedInBooks {
         if (step < 0 || step >= STEPS) {
             return refuse(OTHER);
         }
-        boolean numbered = step < STEPS_WITH_NUMBER;
-        if (numbered && n < 0) {
+        // The range of n is told of the call: it holds for the steps, too, to which n does nothing.
+        if (n < 0) {
             return refuse(BELOW);
         }
-        if (numbered && n > 99 || now.steps >= MOST_STEPS) {
+        if (n > MOST_NUMBER || now.steps >= MOST_STEPS) {
             return refuse(ROOM);
         }
         past.keep(now);
@@ -627,55 +628,6 @@ public final class WeighedInBooks {
         }
     }
 
-    /** What a book of each kind weighs and costs. */
-    private static final class Kinds {
-        static int weight(int kind, int figure, int read, boolean oddWeek, int title) {
-            switch (kind) {
-                case 0: return novel(figure, read);
-                case 1: return hymnal(figure, read);
-                case 2: return 2 * figure;
-                case 3: return sermon(figure, read);
-                case 4: return poems(figure, read);
-                case 5: return 2 * figure / 2 + Titles.lengthOf(title);
-                case 6: return sermon(figure, read) + (oddWeek ? 3 : 0);
-                default: return Math.max(10, poems(figure, read));
-            }
-        }
-
-        static int novel(int figure, int read) {
-            return read == 0 ? 0 : figure + read;
-        }
-
-        static int hymnal(int figure, int read) {
-            return novel(figure, read) + 2;
-        }
-
-        static int sermon(int figure, int read) {
-            return read == 0 ? figure + 5 : novel(figure, read);
-        }
-
-        static int poems(int figure, int read) {
-            return hymnal(figure, read) + read;
-        }
-
-        static int price(int kind, int figure) {
-            int novel = figure + 1;
-            int hymnal = 2;
-            int atlas = 3 * novel;
-            int sermon = 1;
-            switch (kind) {
-                case 0: return novel;
-                case 1: return hymnal;
-                case 2: return atlas;
-                case 3: return sermon;
-                case 4: return hymnal + figure;
-                case 5: return Math.max(0, atlas - 5);
-                case 6: return sermon + 4;
-                default: return 0;
-            }
-        }
-    }
-
     /** Fractions of whole numbers from 0, in lowest terms. */
     private static final class Fractions {
         static long part(long above, long below, int part) {
@@ -796,15 +748,42 @@ public final class WeighedInBooks {
             }
         }
 
-        // ---- what books weigh
+        // ---- what books weigh and cost
 
         int weighs(int book) {
-            return Kinds.weight(kind[book], figure[book], Integer.bitCount(readers[book]),
-                week % 2 == 1, title[book]);
+            int read = Integer.bitCount(readers[book]);
+            int atlas = 2 * figure[book];
+            int novel = read == 0 ? 0 : figure[book] + read;
+            int hymnal = novel + 2;
+            int poems = hymnal + read;
+            int sermon = read == 0 ? figure[book] + 5 : novel;
+            switch (kind[book]) {
+                case 0: return novel;
+                case 1: return hymnal;
+                case 2: return atlas;
+                case 3: return sermon;
+                case 4: return poems;
+                case 5: return atlas / 2 + Titles.lengthOf(title[book]);
+                case 6: return sermon + (week % 2 == 1 ? 3 : 0);
+                default: return Math.max(10, poems);
+            }
         }
 
         int priceOf(int book) {
-            return Kinds.price(kind[book], figure[book]);
+            int novel = figure[book] + 1;
+            int hymnal = 2;
+            int atlas = 3 * novel;
+            int sermon = 1;
+            switch (kind[book]) {
+                case 0: return novel;
+                case 1: return hymnal;
+                case 2: return atlas;
+                case 3: return sermon;
+                case 4: return hymnal + figure[book];
+                case 5: return Math.max(0, atlas - 5);
+                case 6: return sermon + 4;
+                default: return 0;
+            }
         }
 
         /** 1 or 0, so that readers can be added up. */
@@ -1144,9 +1123,13 @@ public final class WeighedInBooks {
             int many = 0;
             while (many < MOST_LETTERS && place < letters) {
                 int start = place;
-                if (!takeStatement()) {
+                int head = here();
+                place++;
+                if (!takeBody(head)) {
                     return FAULT_OF_SENSE - start;
                 }
+                // Behind the body stands its ";".
+                place++;
                 many++;
             }
             town.copyFrom(draft);
@@ -1243,14 +1226,6 @@ public final class WeighedInBooks {
         }
 
         // ---- the statements, whether they are as they must be: only of letters that can be read
-
-        boolean takeStatement() {
-            int head = here();
-            place++;
-            boolean good = takeBody(head);
-            place++;
-            return good;
-        }
 
         boolean takeBody(int head) {
             switch (head) {

@@ -1,14 +1,20 @@
 import java.io.IOException;
+import java.io.PrintWriter;
+import java.io.StringWriter;
 import java.lang.reflect.Constructor;
 import java.lang.reflect.Field;
 import java.lang.reflect.Method;
 import java.lang.reflect.Modifier;
 import java.nio.file.Files;
 import java.nio.file.Path;
+import java.util.Map;
+import java.util.Optional;
 import java.util.Set;
+import java.util.TreeMap;
 import java.util.TreeSet;
 import java.util.regex.Matcher;
 import java.util.regex.Pattern;
+import java.util.spi.ToolProvider;
 
 /** The public face of the document, and what of ../shared/LANGUAGE.md a look at the text can tell. */
 public final class FaceTest {
@@ -31,6 +37,7 @@ public final class FaceTest {
         checks.test("no more than the face is seen", FaceTest::nothingElse);
         checks.test("the language is kept to", c -> language(c, bare(source)));
         checks.test("short methods, few parameters", c -> sizes(c, source));
+        checks.test("calls go at most eight deep, none is a recursion", FaceTest::depths);
         checks.end();
     }
 
@@ -125,6 +132,59 @@ public final class FaceTest {
                 start = -1;
             }
             c.isTrue("line " + (i + 1) + " has signs above 126", lines[i].matches("[\\x20-\\x7e]*"));
+        }
+    }
+
+    private static void depths(Checks c) {
+        Map<String, Set<String>> calls = calls(c);
+        for (Method method : WeighedInBooks.class.getDeclaredMethods()) {
+            String name = "WeighedInBooks." + method.getName();
+            c.isTrue(name + " is not among " + calls.keySet(), calls.isEmpty() || calls.containsKey(name));
+            c.isTrue(name + " goes deeper than eight", isWithin(calls, name, 8));
+        }
+    }
+
+    private static boolean isWithin(Map<String, Set<String>> calls, String name, int levels) {
+        for (String called : calls.getOrDefault(name, Set.of())) {
+            if (levels <= 1 || !isWithin(calls, called, levels - 1)) {
+                return false;
+            }
+        }
+        return true;
+    }
+
+    /** For each method those of the class and of the classes inside that it calls; none, if javap isn't there. */
+    private static Map<String, Set<String>> calls(Checks c) {
+        Map<String, Set<String>> calls = new TreeMap<>();
+        Optional<ToolProvider> javap = ToolProvider.findFirst("javap");
+        if (javap.isEmpty()) {
+            return calls;
+        }
+        String path = System.getProperty("java.class.path");
+        addCalls(c, calls, javap.get(), path, "WeighedInBooks");
+        for (Class<?> inside : WeighedInBooks.class.getDeclaredClasses()) {
+            addCalls(c, calls, javap.get(), path, inside.getName());
+        }
+        return calls;
+    }
+
+    private static void addCalls(Checks c, Map<String, Set<String>> calls, ToolProvider javap, String path, String name) {
+        StringWriter told = new StringWriter();
+        PrintWriter out = new PrintWriter(told);
+        c.due("javap of " + name, javap.run(out, out, "-p", "-c", "-cp", path, name), 0);
+        Pattern head = Pattern.compile("  (?:\\S.* )?([\\w$.]+)\\(.*\\);");
+        Pattern call = Pattern.compile("// Method (?:(WeighedInBooks[\\w$]*)\\.)?([\\w<>\"]+):");
+        Set<String> called = new TreeSet<>();
+        for (String line : told.toString().split("\\R")) {
+            Matcher begins = head.matcher(line);
+            Matcher calling = call.matcher(line);
+            if (begins.matches()) {
+                boolean makes = begins.group(1).equals(name);
+                called = calls.computeIfAbsent(name + "." + (makes ? "<init>" : begins.group(1)), k -> new TreeSet<>());
+            } else if (calling.find()) {
+                String of = calling.group(1) == null ? name : calling.group(1);
+                called.add(of + "." + calling.group(2).replace("\"", ""));
+            }
         }
     }
 }

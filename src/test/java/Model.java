@@ -432,10 +432,10 @@ final class Model {
         if (step < 0 || step > 7) {
             return no(-2);
         }
-        if (step < 4 && n < 0) {
+        if (n < 0) {
             return no(-4);
         }
-        if (step < 4 && n > 99 || s.law.size() == 6) {
+        if (n > 99 || s.law.size() == 6) {
             return no(-6);
         }
         keep();

@@ -23,6 +23,7 @@ public final class TellingTest {
         checks.test("promise 11, lends", TellingTest::lends);
         checks.test("promise 12, buys", TellingTest::buys);
         checks.test("promise 13, step", TellingTest::step);
+        checks.test("promise 13, step: 4 to 7 make nothing of n", TellingTest::stepIgnoresNumber);
         checks.test("promise 14, clearLaw", TellingTest::clearLaw);
         checks.test("promise 15, weeks: bounds", TellingTest::weeksBounds);
         checks.test("promise 15, weeks: eating", TellingTest::weeksEating);
@@ -443,21 +444,51 @@ public final class TellingTest {
         WeighedInBooks x = new WeighedInBooks();
         c.due("below a", x.step(-1, -1), -2);
         c.due("above o", x.step(8, 100), -2);
-        c.due("below", x.step(0, -1), -4);
-        c.due("below", x.step(3, -1), -4);
-        c.due("above", x.step(0, 100), -6);
-        c.due("above", x.step(3, 100), -6);
+        for (int step = 0; step < 8; step++) {
+            c.due("below, step " + step, x.step(step, -1), -4);
+            c.due("far below, step " + step, x.step(step, Integer.MIN_VALUE), -4);
+            c.due("above, step " + step, x.step(step, 100), -6);
+            c.due("far above, step " + step, x.step(step, Integer.MAX_VALUE), -6);
+        }
+        c.due("none came", x.count(3), 0);
         c.due("a 0", x.step(0, 0), 1);
         c.due("t 99", x.step(3, 99), 2);
-        c.due("d, n is nothing to it", x.step(4, -1), 3);
-        c.due("u, n is nothing to it", x.step(5, 100), 4);
-        c.due("h", x.step(6, 0), 5);
-        c.due("o", x.step(7, 7), 6);
+        c.due("d 0", x.step(4, 0), 3);
+        c.due("u 99", x.step(5, 99), 4);
+        c.due("h 0", x.step(6, 0), 5);
+        c.due("o 7", x.step(7, 7), 6);
         c.due("a seventh", x.step(7, 0), -6);
         c.due("a seventh", x.step(0, 5), -6);
         c.due("a seventh below", x.step(0, -1), -4);
+        c.due("a seventh below", x.step(7, -1), -4);
+        c.due("a seventh that is none", x.step(8, 0), -2);
         c.due("steps", x.count(3), 6);
         c.due("to take back", x.count(7), 6);
+        c.due("refused -2", x.count(12), 3);
+        c.due("refused -4", x.count(14), 18);
+        c.due("refused -6", x.count(16), 18);
+    }
+
+    private static void stepIgnoresNumber(Checks c) {
+        for (int n = 0; n <= 99; n += 33) {
+            WeighedInBooks x = Checks.town("w01;p20550;p10310;b240y;");
+            c.due("d, " + n, x.step(4, n), 1);
+            c.due("twice only if both have read it", x.pan(0, 1, 0), 8);
+            x.reads(0, 0);
+            x.reads(1, 0);
+            c.due("twice", x.pan(0, 1, 0), 16);
+            c.due("h, " + n, x.step(6, n), 2);
+            c.due("half", x.pan(0, 1, 0), 8);
+            c.due("o, " + n, x.step(7, n), 3);
+            c.due("1 more", x.pan(0, 1, 0), 9);
+            c.due("u, " + n, x.step(5, n), 4);
+            c.due("as it is", x.pan(0, 1, 0), 9);
+            for (int i = 0; i < 5; i++) {
+                x.back();
+            }
+            x.step(5, n);
+            c.due("0", x.pan(0, 1, 0), 0);
+        }
     }
 
     private static void clearLaw(Checks c) {
