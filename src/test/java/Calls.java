@@ -1,121 +1,65 @@
+import java.lang.reflect.InvocationTargetException;
+import java.lang.reflect.Method;
 import java.util.Random;
 
-/** Every call of the face by its number, on the class or on the model, and arguments by lot. */
+/** Every call of the face by its number, asked of the class or of the model, and arguments by lot. */
 final class Calls {
     static final String[] NAMES = {"feed", "town", "person", "book", "title", "comes", "brings", "eats", "reads",
         "lends", "buys", "step", "clearLaw", "weeks", "back", "over", "pan", "overThen", "then", "when", "first",
         "buy", "borrow", "taught", "couples", "heaviest", "whatKind", "two", "damp", "titles", "from", "shelf",
         "sight", "share", "byHeart", "kinds", "row", "judge", "clear", "lots", "image", "restore", "count"};
 
+    private static final Method[] OF_CLASS = methodsOf(WeighedInBooks.class);
+    private static final Method[] OF_MODEL = methodsOf(Model.class);
+
     private Calls() {
     }
 
-    static long answer(WeighedInBooks x, int which, int[] a) {
-        switch (NAMES[which]) {
-            case "feed": return x.feed(a[0]);
-            case "town": return x.town();
-            case "person": return x.person(a[0], a[1]);
-            case "book": return x.book(a[0], a[1]);
-            case "title": return x.title(a[0], a[1]);
-            case "comes": return x.comes(a[0], a[1], a[2]);
-            case "brings": return x.brings(a[0], a[1], a[2], a[3]);
-            case "eats": return x.eats(a[0], a[1]);
-            case "reads": return x.reads(a[0], a[1]);
-            case "lends": return x.lends(a[0], a[1]);
-            case "buys": return x.buys(a[0], a[1]);
-            case "step": return x.step(a[0], a[1]);
-            case "clearLaw": return x.clearLaw();
-            case "weeks": return x.weeks(a[0]);
-            case "back": return x.back();
-            case "over": return x.over(a[0], a[1]);
-            case "pan": return x.pan(a[0], a[1], a[2]);
-            case "overThen": return x.overThen(a[0], a[1], a[2]);
-            case "then": return x.then(a[0], a[1], a[2]);
-            case "when": return x.when(a[0], a[1]);
-            case "first": return x.first();
-            case "buy": return x.buy(a[0], a[1], a[2]);
-            default: return answerMore(x, which, a);
+    static int index(String name) {
+        for (int i = 0; i < NAMES.length; i++) {
+            if (NAMES[i].equals(name)) {
+                return i;
+            }
+        }
+        throw new IllegalArgumentException(name);
+    }
+
+    static long answer(WeighedInBooks x, int which, int... arguments) {
+        return answer(OF_CLASS[which], x, arguments);
+    }
+
+    static long answer(Model m, int which, int... arguments) {
+        return answer(OF_MODEL[which], m, arguments);
+    }
+
+    private static long answer(Method call, Object of, int[] arguments) {
+        Object[] told = new Object[arguments.length];
+        for (int i = 0; i < told.length; i++) {
+            told[i] = arguments[i];
+        }
+        try {
+            return ((Number) call.invoke(of, told)).longValue();
+        } catch (InvocationTargetException thrown) {
+            throw new IllegalStateException(call.getName() + " threw " + thrown.getCause(), thrown);
+        } catch (IllegalAccessException hidden) {
+            throw new IllegalStateException(hidden);
         }
     }
 
-    private static long answerMore(WeighedInBooks x, int which, int[] a) {
-        switch (NAMES[which]) {
-            case "borrow": return x.borrow(a[0], a[1], a[2]);
-            case "taught": return x.taught(a[0], a[1], a[2], a[3]);
-            case "couples": return x.couples(a[0]);
-            case "heaviest": return x.heaviest(a[0], a[1], a[2]);
-            case "whatKind": return x.whatKind(a[0], a[1], a[2], a[3]);
-            case "two": return x.two(a[0], a[1], a[2]);
-            case "damp": return x.damp(a[0], a[1], a[2], a[3], a[4]);
-            case "titles": return x.titles(a[0], a[1]);
-            case "from": return x.from(a[0]);
-            case "shelf": return x.shelf(a[0], a[1]);
-            case "sight": return x.sight(a[0]);
-            case "share": return x.share(a[0], a[1]);
-            case "byHeart": return x.byHeart(a[0], a[1]);
-            case "kinds": return x.kinds(a[0]);
-            case "row": return x.row(a[0]);
-            case "judge": return x.judge();
-            case "clear": return x.clear();
-            case "lots": return x.lots(a[0], a[1], a[2]);
-            case "image": return x.image();
-            case "restore": return x.restore();
-            default: return x.count(a[0]);
+    private static Method[] methodsOf(Class<?> type) {
+        Method[] methods = new Method[NAMES.length];
+        for (Method method : type.getDeclaredMethods()) {
+            boolean ofNumbers = true;
+            for (Class<?> parameter : method.getParameterTypes()) {
+                ofNumbers &= parameter == int.class;
+            }
+            for (int i = 0; i < NAMES.length; i++) {
+                if (ofNumbers && NAMES[i].equals(method.getName())) {
+                    methods[i] = method;
+                }
+            }
         }
-    }
-
-    static long answer(Model m, int which, int[] a) {
-        switch (NAMES[which]) {
-            case "feed": return m.feed(a[0]);
-            case "town": return m.town();
-            case "person": return m.person(a[0], a[1]);
-            case "book": return m.book(a[0], a[1]);
-            case "title": return m.title(a[0], a[1]);
-            case "comes": return m.comes(a[0], a[1], a[2]);
-            case "brings": return m.brings(a[0], a[1], a[2], a[3]);
-            case "eats": return m.eats(a[0], a[1]);
-            case "reads": return m.reads(a[0], a[1]);
-            case "lends": return m.lends(a[0], a[1]);
-            case "buys": return m.buys(a[0], a[1]);
-            case "step": return m.step(a[0], a[1]);
-            case "clearLaw": return m.clearLaw();
-            case "weeks": return m.weeks(a[0]);
-            case "back": return m.back();
-            case "over": return m.over(a[0], a[1]);
-            case "pan": return m.pan(a[0], a[1], a[2]);
-            case "overThen": return m.overThen(a[0], a[1], a[2]);
-            case "then": return m.then(a[0], a[1], a[2]);
-            case "when": return m.when(a[0], a[1]);
-            case "first": return m.first();
-            case "buy": return m.buy(a[0], a[1], a[2]);
-            default: return answerMore(m, which, a);
-        }
-    }
-
-    private static long answerMore(Model m, int which, int[] a) {
-        switch (NAMES[which]) {
-            case "borrow": return m.borrow(a[0], a[1], a[2]);
-            case "taught": return m.taught(a[0], a[1], a[2], a[3]);
-            case "couples": return m.couples(a[0]);
-            case "heaviest": return m.heaviest(a[0], a[1], a[2]);
-            case "whatKind": return m.whatKind(a[0], a[1], a[2], a[3]);
-            case "two": return m.two(a[0], a[1], a[2]);
-            case "damp": return m.damp(a[0], a[1], a[2], a[3], a[4]);
-            case "titles": return m.titles(a[0], a[1]);
-            case "from": return m.from(a[0]);
-            case "shelf": return m.shelf(a[0], a[1]);
-            case "sight": return m.sight(a[0]);
-            case "share": return m.share(a[0], a[1]);
-            case "byHeart": return m.byHeart(a[0], a[1]);
-            case "kinds": return m.kinds(a[0]);
-            case "row": return m.row(a[0]);
-            case "judge": return m.judge();
-            case "clear": return m.clear();
-            case "lots": return m.lots(a[0], a[1], a[2]);
-            case "image": return m.image();
-            case "restore": return m.restore();
-            default: return m.count(a[0]);
-        }
+        return methods;
     }
 
     /** Mostly from 0 to the greatest, now and then just outside, now and then far. */
@@ -185,7 +129,10 @@ final class Calls {
             case "row": return new int[] {lot.nextInt(10) - 5 + (lot.nextInt(8) == 0 ? lot.nextInt(220) - 110 : 0)};
             case "lots": return new int[] {1 + upTo(lot, 19), lot.nextInt(), upTo(lot, 1)};
             case "count": return new int[] {upTo(lot, 17)};
-            default: return new int[] {one, other};
+            case "over":
+            case "when":
+            case "byHeart": return new int[] {one, other};
+            default: return new int[0];
         }
     }
 

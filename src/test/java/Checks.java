@@ -8,8 +8,29 @@ final class Checks {
         void run(Checks checks);
     }
 
+    /** A call that doesn't end must fail its test, not hold up all others. */
+    private static final long MOST_SECONDS = 240;
+
     private final List<String> wrong = new ArrayList<>();
+    private volatile String running = "the first test";
     private int failedTests;
+
+    Checks() {
+        Thread watch = new Thread(this::watch);
+        watch.setDaemon(true);
+        watch.start();
+    }
+
+    private void watch() {
+        try {
+            Thread.sleep(1000 * MOST_SECONDS);
+            System.out.println("not ok " + running + ": it doesn't end");
+            System.out.flush();
+            Runtime.getRuntime().halt(1);
+        } catch (InterruptedException ended) {
+            Thread.currentThread().interrupt();
+        }
+    }
 
     void due(String call, long answered, long due) {
         if (answered != due) {
@@ -24,6 +45,7 @@ final class Checks {
     }
 
     void test(String name, Test test) {
+        running = name;
         wrong.clear();
         try {
             test.run(this);

@@ -1,42 +1,64 @@
 import java.lang.management.ManagementFactory;
 import java.util.Random;
 
-/** All calls live in one room: the calls make nothing, and a new object makes little. */
+/** All calls of a run live in one room: what they make together must stay far below what it holds. */
 public final class RoomTest {
-    private static final int CALLS = 512;
+    private static final int CALLS = Runs.MOST_CALLS;
+    /** Of some 600,000 objects, 16 bytes at the least each, a run may fill a part. */
+    private static final long MOST_BYTES = 4_000_000;
+    private static final com.sun.management.ThreadMXBean ROOM =
+        (com.sun.management.ThreadMXBean) ManagementFactory.getThreadMXBean();
 
     public static void main(String[] args) {
         Checks checks = new Checks();
-        checks.test("calls make no objects", RoomTest::calls);
+        if (ROOM.isThreadAllocatedMemorySupported()) {
+            checks.test("a run by lot makes little", RoomTest::runsByLot);
+            checks.test("each call makes little, asked again and again on a full one", RoomTest::eachCall);
+        } else {
+            checks.test("this machine doesn't tell what is made", c -> { });
+        }
         checks.end();
     }
 
-    private static void calls(Checks c) {
-        com.sun.management.ThreadMXBean room = (com.sun.management.ThreadMXBean) ManagementFactory.getThreadMXBean();
-        if (!room.isThreadAllocatedMemorySupported()) {
-            return;
-        }
+    private static WeighedInBooks full() {
+        WeighedInBooks x = new WeighedInBooks();
+        Runs.play((which, arguments) -> Calls.answer(x, which, arguments), (Object) Runs.FULL);
+        return x;
+    }
+
+    private static void runsByLot(Checks c) {
         for (int run = 0; run < 20; run++) {
             Random lot = new Random(run);
-            int[] which = new int[CALLS];
-            int[][] arguments = new int[CALLS][];
-            for (int i = 0; i < CALLS; i++) {
+            WeighedInBooks x = full();
+            int[] which = new int[CALLS - Runs.FULL_CALLS];
+            int[][] arguments = new int[which.length][];
+            for (int i = 0; i < which.length; i++) {
                 which[i] = lot.nextInt(Calls.NAMES.length);
                 arguments[i] = Calls.arguments(lot, which[i], 6, 10);
             }
-            WeighedInBooks x = Checks.town("p05000;p04900;p00000;p09210;p08899;p01110;la05dh;",
-                "b059a;b150b;b251c;b352d;b453e;b554f;b655g;h9g;b759h;b039i;b149zzzz;h0a;h0zzzz;");
-            long before = room.getCurrentThreadAllocatedBytes();
-            for (int i = 0; i < CALLS; i++) {
-                Calls.answer(x, which[i], arguments[i]);
-            }
-            long made = room.getCurrentThreadAllocatedBytes() - before;
-            long start = room.getCurrentThreadAllocatedBytes();
-            WeighedInBooks y = new WeighedInBooks();
-            long one = room.getCurrentThreadAllocatedBytes() - start;
-            // The first run makes what the machine itself needs to start.
-            c.isTrue("run " + run + " made " + made + " bytes", run == 0 || made < 512);
-            c.isTrue("a new object has " + one + " bytes", one < 32768 && y.count(0) == 0);
+            c.isTrue("run " + run, made(x, which, arguments) < MOST_BYTES);
         }
+    }
+
+    private static void eachCall(Checks c) {
+        for (int call = 0; call < Calls.NAMES.length; call++) {
+            Random lot = new Random(call);
+            WeighedInBooks x = full();
+            int[] which = new int[CALLS - Runs.FULL_CALLS];
+            int[][] arguments = new int[which.length][];
+            for (int i = 0; i < which.length; i++) {
+                which[i] = call;
+                arguments[i] = Calls.arguments(lot, call, 6, 10);
+            }
+            c.isTrue(Calls.NAMES[call] + "()", made(x, which, arguments) < MOST_BYTES);
+        }
+    }
+
+    private static long made(WeighedInBooks x, int[] which, int[][] arguments) {
+        long before = ROOM.getCurrentThreadAllocatedBytes();
+        for (int i = 0; i < which.length; i++) {
+            Calls.answer(x, which[i], arguments[i]);
+        }
+        return ROOM.getCurrentThreadAllocatedBytes() - before;
     }
 }
